@@ -57,7 +57,6 @@ public final class CalendarOrders {
 
     private static final int DAY_ALONE = 0;
     private static final int WEEKDAY_ALONE = 1;
-    private static final int BOTH = 2;
     private static final int WHOLE_DATE = 3;
 
     private final Civil civil = new Civil();
@@ -406,14 +405,17 @@ public final class CalendarOrders {
 
     // ---- how the desk works
 
-    /** Goes from one minute at which something happens to the next, as nothing changes in between. */
+    /**
+     * Goes from one minute at which orders are due to the next. Runs that end in between are ended
+     * only then, but each for its own minute and by these minutes, which comes to the same.
+     */
     private void workUntil(int last) {
         for (int number = 0; number < MOST_ORDERS; number++) {
             Order order = orders[number];
             order.nextDue = order.used ? order.leastMatch(clock + 1, last) : NONE;
         }
         for (int i = 0; i < MOST_PASS_AWAKE && clock < last; i++) {
-            clock = nextEvent(last);
+            clock = leastDue(last);
             endRuns();
             for (int number = 0; number < MOST_ORDERS; number++) {
                 Order order = orders[number];
@@ -425,21 +427,18 @@ public final class CalendarOrders {
         }
     }
 
-    private int nextEvent(int last) {
+    private int leastDue(int last) {
         int least = last;
         for (int number = 0; number < MOST_ORDERS; number++) {
             Order order = orders[number];
             if (order.nextDue != NONE) {
                 least = Math.min(least, order.nextDue);
             }
-            if (order.running > 0) {
-                least = Math.min(least, order.firstEnd());
-            }
         }
         return least;
     }
 
-    /** Awake all of these end at the same minute, so that one order of ending serves awake and at waking. */
+    /** Ends all runs that should have ended by now: by the minutes of their ends, then by numbers. */
     private void endRuns() {
         for (int i = 0; i < MOST_ENDS; i++) {
             Order order = firstToEnd();
@@ -787,17 +786,22 @@ public final class CalendarOrders {
 
         long daysByWeekday() {
             int last = civil.monthDays;
-            int weekday = civil.firstWeekday;
             long right = 0;
-            for (int n = 1; n <= last; n++) {
-                boolean kth = holds(kthWeekdays, 7 * ((n + 6) / 7) + weekday);
-                boolean lastOfIt = n + 7 > last && holds(lastWeekdays, weekday);
-                if (holds(numbers[WEEKDAY], weekday) || kth || lastOfIt) {
-                    right |= 1L << n;
-                }
-                weekday = weekday == 6 ? 0 : weekday + 1;
+            for (int k = 1; k <= 5; k++) {
+                // The k-th one of each WEEKDAY lies in the k-th seven days.
+                long weekdays = numbers[WEEKDAY] | kthWeekdays >>> 7 * k;
+                right |= weekFrom(civil.firstWeekday, weekdays) << 7 * k - 6;
             }
-            return right;
+            // The last one of each lies in the last seven days, which begin on this WEEKDAY.
+            int weekday = (civil.firstWeekday + last) % 7;
+            right |= weekFrom(weekday, lastWeekdays) << last - 6;
+            return right & below(last + 1);
+        }
+
+        /** Which of the seven days that begin on a WEEKDAY are in a set of them. */
+        static long weekFrom(int weekday, long weekdays) {
+            long week = weekdays & 127;
+            return (week >>> weekday | week << 7 - weekday) & 127;
         }
 
         boolean isRight(int day) {
