@@ -924,6 +924,7 @@ public final class CalendarOrders {
         int at;
         int code;
         int place;
+        // What was read last; nobody's at first, so that it is never null.
         Rule rule = new Rule();
 
         void add(int newByte) {
