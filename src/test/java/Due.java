@@ -4,8 +4,27 @@ import java.util.function.Supplier;
 final class Due {
     private static int wrong = 0;
     private static int asked = 0;
+    private static String sentence = "";
+    private static int askedBefore = 0;
 
     private Due() {
+    }
+
+    /**
+     * From here on the answers are asked for one sentence of the document, and a wrong one is told with it.
+     * A sentence for which nothing was asked counts as wrong: its test has been lost.
+     */
+    static void sentence(String where, String words) {
+        closeSentence();
+        sentence = where + ": \"" + words + "\": ";
+        askedBefore = asked;
+    }
+
+    private static void closeSentence() {
+        if (!sentence.isEmpty() && asked == askedBefore) {
+            wrong++;
+            System.out.println(sentence + "nothing was asked");
+        }
     }
 
     static void is(String call, Object got, Object want) {
@@ -13,7 +32,7 @@ final class Due {
         if (!got.equals(want)) {
             wrong++;
             if (wrong <= 40) {
-                System.out.println(call + " answered " + got + ", due is " + want);
+                System.out.println(sentence + call + " answered " + got + ", due is " + want);
             }
         }
     }
@@ -23,10 +42,24 @@ final class Due {
     }
 
     static void refuses(String call, Class<? extends RuntimeException> want, Runnable what) {
-        refuses(call, want, () -> {
+        refuses(call, want, answering(what));
+    }
+
+    /** The call is allowed, whatever it answers. */
+    static void takes(String call, Supplier<?> what) {
+        Object got = answerOf(what);
+        is(call + " answered " + got, got.toString().endsWith("Exception"), false);
+    }
+
+    static void takes(String call, Runnable what) {
+        takes(call, answering(what));
+    }
+
+    static Supplier<?> answering(Runnable what) {
+        return () -> {
             what.run();
             return "nothing";
-        });
+        };
     }
 
     static Object answerOf(Supplier<?> what) {
@@ -55,6 +88,7 @@ final class Due {
     }
 
     static void end(String test) {
+        closeSentence();
         System.out.println(test + ": " + asked + " answers, " + wrong + " not as due");
         if (wrong > 0 || asked == 0) {
             System.exit(1);

@@ -8,13 +8,17 @@ import java.util.TreeSet;
 
 /** The document's public face, and that nothing else can be seen. */
 public final class FaceTest {
+    private static final String I = " IndexOutOfBoundsException";
+    private static final String A = " IllegalArgumentException";
+    private static final String S = " IllegalStateException";
     private static final List<String> FACE = List.of(
-        "void zone(int,int)", "int change(int,int,int)", "int civil(int,int,int)",
-        "int minute(int,int,int,int,int,int)", "int feed(long,int)", "int order(int,int,int,int,int)",
-        "int fault()", "int cancel(int)", "int told(int,int)", "long field(int,int)",
-        "boolean day(int,int,int,int,int)", "boolean matches(int,int)", "int next(int,int,int)",
-        "int before(int,int,int)", "int between(int,int,int)", "void put(int)", "int pass(int)",
-        "void sleep()", "int wake()", "int log(int,int)", "int tear()", "int count(int)");
+        "void zone(int,int)" + I + A, "int change(int,int,int)" + I + A + S, "int civil(int,int,int)" + I + A,
+        "int minute(int,int,int,int,int,int)" + I + A, "int feed(long,int)" + A + S,
+        "int order(int,int,int,int,int)" + I + A + S, "int fault()", "int cancel(int)" + I, "int told(int,int)" + I + A,
+        "long field(int,int)" + I + A, "boolean day(int,int,int,int,int)" + I + A, "boolean matches(int,int)" + I + A,
+        "int next(int,int,int)" + I + A, "int before(int,int,int)" + I + A, "int between(int,int,int)" + I + A,
+        "void put(int)" + A + S, "int pass(int)" + A, "void sleep()" + S, "int wake()" + S, "int log(int,int)" + I + A,
+        "int tear()", "int count(int)" + A);
 
     public static void main(String[] args) {
         Class<?> c = CalendarOrders.class;
@@ -24,7 +28,7 @@ public final class FaceTest {
         TreeSet<String> names = new TreeSet<>();
         for (Method m : c.getDeclaredMethods()) {
             if (!Modifier.isPrivate(m.getModifiers())) {
-                seen.add(m.getReturnType() + " " + m.getName() + params(m.getParameterTypes()));
+                seen.add(m.getReturnType() + " " + m.getName() + params(m.getParameterTypes()) + thrown(m));
                 names.add(m.getName());
             }
         }
@@ -49,5 +53,13 @@ public final class FaceTest {
 
     private static String params(Class<?>[] types) {
         return Arrays.toString(types).replace("[", "(").replace("]", ")").replace(" ", "");
+    }
+
+    private static String thrown(Method m) {
+        StringBuilder names = new StringBuilder();
+        for (Class<?> e : m.getExceptionTypes()) {
+            names.append(' ').append(e.getSimpleName());
+        }
+        return names.toString();
     }
 }

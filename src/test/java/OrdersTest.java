@@ -76,91 +76,77 @@ public final class OrdersTest {
         Due.refuses("promise 10: what -1", ARGUMENT, () -> x.told(0, -1));
     }
 
-    /** Which days of a month are right, as a text. */
-    private static void days(String text, int how, int year, int month, String want) {
-        CalendarOrders x = new CalendarOrders();
-        int order = Due.order(x, text);
-        StringBuilder got = new StringBuilder();
-        for (int day = 1; day <= java.time.YearMonth.of(year, month).lengthOfMonth(); day++) {
-            if (x.day(order, how, year, month, day)) {
-                got.append(got.length() > 0 ? " " : "").append(day);
-            }
-        }
-        Due.is("promise 12: days of " + year + "-" + month + ", how " + how + ", \"" + text + "\"", got.toString(), want);
-    }
-
     private static void daysByDay() {
-        days("* * 3,30,31 2 *", 0, 2024, 4, "3 30");
-        days("* * L * *", 0, 2024, 2, "29");
-        days("* * L * *", 0, 2023, 2, "28");
-        days("* * L * *", 0, 2024, 4, "30");
-        days("* * L-1,L-2 * *", 0, 2024, 5, "29 30");
-        days("* * L-30 * *", 0, 2024, 5, "1");
-        days("* * L-30 * *", 0, 2024, 4, "");
-        days("* * L-28 * *", 0, 2024, 2, "1");
-        days("* * L-28 * *", 0, 2023, 2, "");
+        Texts.days("* * 3,30,31 2 *", 0, 2024, 4, "3 30");
+        Texts.days("* * L * *", 0, 2024, 2, "29");
+        Texts.days("* * L * *", 0, 2023, 2, "28");
+        Texts.days("* * L * *", 0, 2024, 4, "30");
+        Texts.days("* * L-1,L-2 * *", 0, 2024, 5, "29 30");
+        Texts.days("* * L-30 * *", 0, 2024, 5, "1");
+        Texts.days("* * L-30 * *", 0, 2024, 4, "");
+        Texts.days("* * L-28 * *", 0, 2024, 2, "1");
+        Texts.days("* * L-28 * *", 0, 2023, 2, "");
         // June 2024 begins on a Saturday and ends on a Sunday.
-        days("* * LW * *", 0, 2024, 6, "28");
-        days("* * 30W * *", 0, 2024, 6, "28");
-        days("* * 1W * *", 0, 2024, 6, "3");
-        days("* * 2W * *", 0, 2024, 6, "3");
-        days("* * 3W * *", 0, 2024, 6, "3");
-        days("* * 8W * *", 0, 2024, 6, "7");
-        days("* * 9W * *", 0, 2024, 6, "10");
-        days("* * 29W * *", 0, 2024, 6, "28");
-        days("* * 31W * *", 0, 2024, 6, "");
+        Texts.days("* * LW * *", 0, 2024, 6, "28");
+        Texts.days("* * 30W * *", 0, 2024, 6, "28");
+        Texts.days("* * 1W * *", 0, 2024, 6, "3");
+        Texts.days("* * 2W * *", 0, 2024, 6, "3");
+        Texts.days("* * 3W * *", 0, 2024, 6, "3");
+        Texts.days("* * 8W * *", 0, 2024, 6, "7");
+        Texts.days("* * 9W * *", 0, 2024, 6, "10");
+        Texts.days("* * 29W * *", 0, 2024, 6, "28");
+        Texts.days("* * 31W * *", 0, 2024, 6, "");
         // August 2024 ends on a Saturday, September begins on a Sunday.
-        days("* * LW * *", 0, 2024, 8, "30");
-        days("* * 31W * *", 0, 2024, 8, "30");
-        days("* * 1W * *", 0, 2024, 9, "2");
-        days("* * LW * *", 0, 2024, 9, "30");
-        days("* * 30W,29W * *", 0, 2024, 9, "30");
-        days("* * L,LW,5W,7 * *", 0, 2024, 6, "5 7 28 30");
-        days("* * L * *", 0, 1899, 12, "31");
-        days("* * 1W * *", 0, 2200, 2, "3");
+        Texts.days("* * LW * *", 0, 2024, 8, "30");
+        Texts.days("* * 31W * *", 0, 2024, 8, "30");
+        Texts.days("* * 1W * *", 0, 2024, 9, "2");
+        Texts.days("* * LW * *", 0, 2024, 9, "30");
+        Texts.days("* * 30W,29W * *", 0, 2024, 9, "30");
+        Texts.days("* * L,LW,5W,7 * *", 0, 2024, 6, "5 7 28 30");
+        Texts.days("* * L * *", 0, 1899, 12, "31");
+        Texts.days("* * 1W * *", 0, 2200, 2, "3");
     }
 
     private static void daysByWeekday() {
-        days("* * 1 * mon", 1, 2024, 6, "3 10 17 24");
-        days("* * 1 * 7", 1, 2024, 6, "2 9 16 23 30");
-        days("* * 1 * 6L", 1, 2024, 6, "29");
-        days("* * 1 * 7L", 1, 2024, 6, "30");
-        days("* * 1 * sunL", 1, 2024, 6, "30");
-        days("* * 1 * monL", 1, 2024, 6, "24");
-        days("* * 1 * sat#1", 1, 2024, 6, "1");
-        days("* * 1 * 7#5", 1, 2024, 6, "30");
-        days("* * 1 * mon#5", 1, 2024, 6, "");
-        days("* * 1 * fri#2,wed#3", 1, 2024, 6, "14 19");
-        days("* * 1 * tue#4,0", 1, 2024, 6, "2 9 16 23 25 30");
-        days("* * 1 * thuL", 1, 2024, 2, "29");
+        Texts.days("* * 1 * mon", 1, 2024, 6, "3 10 17 24");
+        Texts.days("* * 1 * 7", 1, 2024, 6, "2 9 16 23 30");
+        Texts.days("* * 1 * 6L", 1, 2024, 6, "29");
+        Texts.days("* * 1 * 7L", 1, 2024, 6, "30");
+        Texts.days("* * 1 * sunL", 1, 2024, 6, "30");
+        Texts.days("* * 1 * monL", 1, 2024, 6, "24");
+        Texts.days("* * 1 * sat#1", 1, 2024, 6, "1");
+        Texts.days("* * 1 * 7#5", 1, 2024, 6, "30");
+        Texts.days("* * 1 * mon#5", 1, 2024, 6, "");
+        Texts.days("* * 1 * fri#2,wed#3", 1, 2024, 6, "14 19");
+        Texts.days("* * 1 * tue#4,0", 1, 2024, 6, "2 9 16 23 25 30");
+        Texts.days("* * 1 * thuL", 1, 2024, 2, "29");
     }
 
     private static void daysByBoth() {
-        days("* * 3,10,11 * mon", 2, 2024, 6, "3 10 11 17 24");
-        days("* * */5 * mon", 2, 2024, 6, "");
-        days("* * */2 * mon", 2, 2024, 6, "3 17");
-        days("* * *,5 * mon", 2, 2024, 6, "3 10 17 24");
-        days("* * 5,* * mon", 2, 2024, 7,
-            "1 2 3 4 5 6 7 8 9 10 11 12 13 14 15 16 17 18 19 20 21 22 23 24 25 26 27 28 29 30 31");
-        days("* * 3-12 * */3", 2, 2024, 6, "5 8 9 12");
-        days("* * L * monL", 2, 2024, 6, "24 30");
-        days("* * * * monL", 2, 2024, 6, "24");
-        days("* * LW 5 * 2023", 2, 2024, 6, "28");
-        days("* * LW 5 * 2023", 3, 2024, 6, "");
-        days("* * LW 5 * 2023", 3, 2023, 6, "");
-        days("* * LW 5 * 2023", 3, 2024, 5, "");
-        days("* * LW 5 * 2023", 3, 2023, 5, "31");
-        days("* * 1 12,1 * */299", 3, 1900, 1, "1");
-        days("* * 1 12,1 * */299", 3, 2199, 12, "1");
-        days("* * 1 12,1 * */299", 3, 2198, 12, "");
-        days("* * 1 12,1 * 1963-1964", 3, 1963, 12, "1");
-        days("* * 1 12,1 * 1963-1964", 3, 1964, 1, "1");
-        days("* * 1 12,1 * 1963-1964", 3, 1965, 1, "");
-        days("* * 1 12,1 * 2190/5", 3, 2195, 1, "1");
-        days("* * 1 12,1 *", 3, 1899, 12, "1");
-        days("* * 1 12,1 *", 3, 2200, 1, "1");
-        days("* * 1 12,1 * *", 3, 1899, 12, "");
-        days("* * 1 12,1 * *", 3, 2200, 1, "");
+        Texts.days("* * 3,10,11 * mon", 2, 2024, 6, "3 10 11 17 24");
+        Texts.days("* * */5 * mon", 2, 2024, 6, "");
+        Texts.days("* * */2 * mon", 2, 2024, 6, "3 17");
+        Texts.days("* * *,5 * mon", 2, 2024, 6, "3 10 17 24");
+        Texts.days("* * 5,* * mon", 2, 2024, 7, Texts.ALL_OF_31);
+        Texts.days("* * 3-12 * */3", 2, 2024, 6, "5 8 9 12");
+        Texts.days("* * L * monL", 2, 2024, 6, "24 30");
+        Texts.days("* * * * monL", 2, 2024, 6, "24");
+        Texts.days("* * LW 5 * 2023", 2, 2024, 6, "28");
+        Texts.days("* * LW 5 * 2023", 3, 2024, 6, "");
+        Texts.days("* * LW 5 * 2023", 3, 2023, 6, "");
+        Texts.days("* * LW 5 * 2023", 3, 2024, 5, "");
+        Texts.days("* * LW 5 * 2023", 3, 2023, 5, "31");
+        Texts.days("* * 1 12,1 * */299", 3, 1900, 1, "1");
+        Texts.days("* * 1 12,1 * */299", 3, 2199, 12, "1");
+        Texts.days("* * 1 12,1 * */299", 3, 2198, 12, "");
+        Texts.days("* * 1 12,1 * 1963-1964", 3, 1963, 12, "1");
+        Texts.days("* * 1 12,1 * 1963-1964", 3, 1964, 1, "1");
+        Texts.days("* * 1 12,1 * 1963-1964", 3, 1965, 1, "");
+        Texts.days("* * 1 12,1 * 2190/5", 3, 2195, 1, "1");
+        Texts.days("* * 1 12,1 *", 3, 1899, 12, "1");
+        Texts.days("* * 1 12,1 *", 3, 2200, 1, "1");
+        Texts.days("* * 1 12,1 * *", 3, 1899, 12, "");
+        Texts.days("* * 1 12,1 * *", 3, 2200, 1, "");
     }
 
     private static void dayRefuses() {

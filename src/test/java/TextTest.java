@@ -72,135 +72,122 @@ public final class TextTest {
         Due.is("promise 7: the next one", Due.order(x, "@hourly"), 7);
     }
 
-    private static void faulty(String text, int place, int code) {
-        CalendarOrders x = new CalendarOrders();
-        Due.is("promise 7: \"" + text + "\"", Due.order(x, text), -2 - place);
-        Due.is("promise 8: fault of \"" + text + "\"", x.fault(), code);
-        Due.is("no order of \"" + text + "\"", x.count(2), 0);
-    }
-
-    private static void right(String text) {
-        CalendarOrders x = new CalendarOrders();
-        Due.is("promise 7: \"" + text + "\"", Due.order(x, text), 0);
-        Due.is("promise 8: fault of \"" + text + "\"", x.fault(), 0);
-    }
-
     private static void faultsOfShape() {
-        faulty("", 0, 1);
-        faulty("   ", 3, 1);
-        faulty("*", 1, 1);
-        faulty("* * * *", 7, 1);
-        faulty("* * * *  ", 9, 1);
-        faulty("* * * * * * *", 12, 1);
-        faulty("* * * * *x", 9, 1);
-        faulty("* * * * * 2000 @", 15, 1);
-        faulty("\t* * * * *", 0, 1);
-        faulty("* * * *\u00ff*", 7, 1);
-        faulty("** * * * *", 1, 1);
-        faulty("*5 * * * *", 1, 1);
-        faulty("*-5 * * * *", 1, 1);
-        faulty("*/ * * * *", 2, 1);
-        faulty("*/* * * * *", 2, 1);
-        faulty("5,, * * * *", 2, 1);
-        faulty("5, * * * *", 2, 1);
-        faulty("5-6-7 * * * *", 3, 1);
-        faulty("5-*", 2, 1);
-        faulty("5/2/3", 3, 1);
-        faulty("5/2-7", 3, 1);
-        faulty("-5 * * * *", 0, 1);
-        faulty("12345 * * * *", 4, 1);
-        faulty("00000 * * * *", 4, 1);
-        faulty("0-00000 * * * *", 6, 1);
-        faulty("*/00001 * * * *", 6, 1);
-        faulty("jan * * * *", 0, 1);
-        faulty("L * * * *", 0, 1);
-        faulty("* 5W * * *", 3, 1);
-        faulty("* * * L *", 6, 1);
-        faulty("* * * 5#1 *", 7, 1);
-        faulty("* * * mon *", 7, 1);
-        faulty("* * * Jan *", 6, 1);
-        faulty("* * * janu *", 9, 1);
-        faulty("* * * jan5 *", 9, 1);
-        faulty("* * * ju", 8, 1);
-        faulty("* * * * tux", 10, 1);
-        faulty("* * * * L", 8, 1);
-        faulty("* * * * 5W", 9, 1);
-        faulty("* * * * 5L#1", 10, 1);
-        faulty("* * * * 1-5L", 11, 1);
-        faulty("* * * * 5L/2", 10, 1);
-        faulty("* * * * 5#", 10, 1);
-        faulty("* * * * 5#x", 10, 1);
-        faulty("* * * * 5#12", 11, 1);
-        faulty("* * * * * jan", 10, 1);
-        faulty("* * W * *", 4, 1);
-        faulty("* * LL * *", 5, 1);
-        faulty("* * LW-1 * *", 6, 1);
-        faulty("* * L-1W * *", 7, 1);
-        faulty("* * L/2 * *", 5, 1);
-        faulty("* * L- * *", 6, 1);
-        faulty("* * L-100 * *", 8, 1);
-        faulty("* * 1-15W * *", 8, 1);
-        faulty("* * 15WW * *", 7, 1);
-        faulty("* * 15W/2 * *", 7, 1);
-        faulty("* * 5L * *", 5, 1);
-        faulty("@", 1, 1);
-        faulty("@x", 1, 1);
-        faulty("@hour", 5, 1);
-        faulty("@dayly", 3, 1);
-        faulty("@dailyx", 6, 1);
-        faulty("@daily @daily", 7, 1);
-        faulty("* @daily", 2, 1);
-        faulty("@Daily", 1, 1);
+        Texts.faulty("", 0, 1);
+        Texts.faulty("   ", 3, 1);
+        Texts.faulty("*", 1, 1);
+        Texts.faulty("* * * *", 7, 1);
+        Texts.faulty("* * * *  ", 9, 1);
+        Texts.faulty("* * * * * * *", 12, 1);
+        Texts.faulty("* * * * *x", 9, 1);
+        Texts.faulty("* * * * * 2000 @", 15, 1);
+        Texts.faulty("\t* * * * *", 0, 1);
+        Texts.faulty("* * * *\u00ff*", 7, 1);
+        Texts.faulty("** * * * *", 1, 1);
+        Texts.faulty("*5 * * * *", 1, 1);
+        Texts.faulty("*-5 * * * *", 1, 1);
+        Texts.faulty("*/ * * * *", 2, 1);
+        Texts.faulty("*/* * * * *", 2, 1);
+        Texts.faulty("5,, * * * *", 2, 1);
+        Texts.faulty("5, * * * *", 2, 1);
+        Texts.faulty("5-6-7 * * * *", 3, 1);
+        Texts.faulty("5-*", 2, 1);
+        Texts.faulty("5/2/3", 3, 1);
+        Texts.faulty("5/2-7", 3, 1);
+        Texts.faulty("-5 * * * *", 0, 1);
+        Texts.faulty("12345 * * * *", 4, 1);
+        Texts.faulty("00000 * * * *", 4, 1);
+        Texts.faulty("0-00000 * * * *", 6, 1);
+        Texts.faulty("*/00001 * * * *", 6, 1);
+        Texts.faulty("jan * * * *", 0, 1);
+        Texts.faulty("L * * * *", 0, 1);
+        Texts.faulty("* 5W * * *", 3, 1);
+        Texts.faulty("* * * L *", 6, 1);
+        Texts.faulty("* * * 5#1 *", 7, 1);
+        Texts.faulty("* * * mon *", 7, 1);
+        Texts.faulty("* * * Jan *", 6, 1);
+        Texts.faulty("* * * janu *", 9, 1);
+        Texts.faulty("* * * jan5 *", 9, 1);
+        Texts.faulty("* * * ju", 8, 1);
+        Texts.faulty("* * * * tux", 10, 1);
+        Texts.faulty("* * * * L", 8, 1);
+        Texts.faulty("* * * * 5W", 9, 1);
+        Texts.faulty("* * * * 5L#1", 10, 1);
+        Texts.faulty("* * * * 1-5L", 11, 1);
+        Texts.faulty("* * * * 5L/2", 10, 1);
+        Texts.faulty("* * * * 5#", 10, 1);
+        Texts.faulty("* * * * 5#x", 10, 1);
+        Texts.faulty("* * * * 5#12", 11, 1);
+        Texts.faulty("* * * * * jan", 10, 1);
+        Texts.faulty("* * W * *", 4, 1);
+        Texts.faulty("* * LL * *", 5, 1);
+        Texts.faulty("* * LW-1 * *", 6, 1);
+        Texts.faulty("* * L-1W * *", 7, 1);
+        Texts.faulty("* * L/2 * *", 5, 1);
+        Texts.faulty("* * L- * *", 6, 1);
+        Texts.faulty("* * L-100 * *", 8, 1);
+        Texts.faulty("* * 1-15W * *", 8, 1);
+        Texts.faulty("* * 15WW * *", 7, 1);
+        Texts.faulty("* * 15W/2 * *", 7, 1);
+        Texts.faulty("* * 5L * *", 5, 1);
+        Texts.faulty("@", 1, 1);
+        Texts.faulty("@x", 1, 1);
+        Texts.faulty("@hour", 5, 1);
+        Texts.faulty("@dayly", 3, 1);
+        Texts.faulty("@dailyx", 6, 1);
+        Texts.faulty("@daily @daily", 7, 1);
+        Texts.faulty("* @daily", 2, 1);
+        Texts.faulty("@Daily", 1, 1);
     }
 
     private static void faultsOfBounds() {
-        faulty("60 * * * *", 0, 2);
-        faulty("60x", 0, 2);
-        faulty("60", 0, 2);
-        faulty("0,9999 * * * *", 2, 2);
-        faulty("* 24 * * *", 2, 2);
-        faulty("* * 0 * *", 4, 2);
-        faulty("* * 32 * *", 4, 2);
-        faulty("* * 0W * *", 4, 2);
-        faulty("* * 32W * *", 4, 2);
-        faulty("* * * 0 *", 6, 2);
-        faulty("* * * 13 *", 6, 2);
-        faulty("* * * * 8", 8, 2);
-        faulty("* * * * 8L", 8, 2);
-        faulty("* * * * 8#1", 8, 2);
-        faulty("* * * * 5#0", 10, 2);
-        faulty("* * * * 5#6", 10, 2);
-        faulty("* * * * * 1899", 10, 2);
-        faulty("* * * * * 2200", 10, 2);
-        faulty("* * * * * 5", 10, 2);
-        faulty("*/0 * * * *", 2, 2);
-        faulty("*/1001 * * * *", 2, 2);
-        faulty("5-9/0 * * * *", 4, 2);
-        faulty("* * L-0 * *", 6, 2);
-        faulty("* * L-31 * *", 6, 2);
-        faulty("5-60 * * * *", 2, 2);
-        faulty("70-60 * * * *", 0, 2);
+        Texts.faulty("60 * * * *", 0, 2);
+        Texts.faulty("60x", 0, 2);
+        Texts.faulty("60", 0, 2);
+        Texts.faulty("0,9999 * * * *", 2, 2);
+        Texts.faulty("* 24 * * *", 2, 2);
+        Texts.faulty("* * 0 * *", 4, 2);
+        Texts.faulty("* * 32 * *", 4, 2);
+        Texts.faulty("* * 0W * *", 4, 2);
+        Texts.faulty("* * 32W * *", 4, 2);
+        Texts.faulty("* * * 0 *", 6, 2);
+        Texts.faulty("* * * 13 *", 6, 2);
+        Texts.faulty("* * * * 8", 8, 2);
+        Texts.faulty("* * * * 8L", 8, 2);
+        Texts.faulty("* * * * 8#1", 8, 2);
+        Texts.faulty("* * * * 5#0", 10, 2);
+        Texts.faulty("* * * * 5#6", 10, 2);
+        Texts.faulty("* * * * * 1899", 10, 2);
+        Texts.faulty("* * * * * 2200", 10, 2);
+        Texts.faulty("* * * * * 5", 10, 2);
+        Texts.faulty("*/0 * * * *", 2, 2);
+        Texts.faulty("*/1001 * * * *", 2, 2);
+        Texts.faulty("5-9/0 * * * *", 4, 2);
+        Texts.faulty("* * L-0 * *", 6, 2);
+        Texts.faulty("* * L-31 * *", 6, 2);
+        Texts.faulty("5-60 * * * *", 2, 2);
+        Texts.faulty("70-60 * * * *", 0, 2);
         // Out of bounds and less at the same place: the lesser code.
-        faulty("* * 5-0 * *", 6, 2);
-        right("59 23 31 12 7 2199");
-        right("0 0 1 1 0 1900");
-        right("*/1 */1000 L-1 */0001 7#5");
-        right("0059 * L-30 * sun#1");
-        right("* * 0001W,31W,LW,L,L-05,1-2/3 dec sat,7L,monL");
+        Texts.faulty("* * 5-0 * *", 6, 2);
+        Texts.right("59 23 31 12 7 2199");
+        Texts.right("0 0 1 1 0 1900");
+        Texts.right("*/1 */1000 L-1 */0001 7#5");
+        Texts.right("0059 * L-30 * sun#1");
+        Texts.right("* * 0001W,31W,LW,L,L-05,1-2/3 dec sat,7L,monL");
     }
 
     private static void faultsOfStretches() {
-        faulty("5-3 * * * *", 2, 3);
-        faulty("5-3x", 2, 3);
-        faulty("5-3/0 * * * *", 2, 3);
-        faulty("* * * dec-jan *", 10, 3);
-        faulty("* * * * fri-sun", 12, 3);
-        faulty("* * * * 7-0", 10, 3);
-        faulty("* * * * 7-sun", 10, 3);
-        faulty("* * * * 7-6", 10, 3);
-        faulty("* * * * * 2199-1900", 15, 3);
-        right("5-5 * * jan-jan 0-7");
-        right("* * * * 7-7");
+        Texts.faulty("5-3 * * * *", 2, 3);
+        Texts.faulty("5-3x", 2, 3);
+        Texts.faulty("5-3/0 * * * *", 2, 3);
+        Texts.faulty("* * * dec-jan *", 10, 3);
+        Texts.faulty("* * * * fri-sun", 12, 3);
+        Texts.faulty("* * * * 7-0", 10, 3);
+        Texts.faulty("* * * * 7-sun", 10, 3);
+        Texts.faulty("* * * * 7-6", 10, 3);
+        Texts.faulty("* * * * * 2199-1900", 15, 3);
+        Texts.right("5-5 * * jan-jan 0-7");
+        Texts.right("* * * * 7-7");
     }
 
     private static void latestFault() {
@@ -219,54 +206,40 @@ public final class TextTest {
         Due.is("promise 8: other calls leave it", x.fault(), 1);
     }
 
-    private static long bits(int... numbers) {
-        long bits = 0;
-        for (int n : numbers) {
-            bits |= 1L << n;
-        }
-        return bits;
-    }
-
-    private static void field(String text, int field, long want) {
-        CalendarOrders x = new CalendarOrders();
-        int order = Due.order(x, text);
-        Due.is("promise 11: field " + field + " of \"" + text + "\"", x.field(order, field), want);
-    }
-
     private static void fields() {
         long minutes = (1L << 60) - 1;
-        field("* * * * *", 0, minutes);
-        field("* * * * *", 1, (1L << 24) - 1);
-        field("* * * * *", 2, (1L << 32) - 2);
-        field("* * * * *", 3, (1L << 13) - 2);
-        field("* * * * *", 4, 127L);
-        field("5,7,5 * * * *", 0, bits(5, 7));
-        field("*/25 * * * *", 0, bits(0, 25, 50));
-        field("*/1000 * * * *", 0, bits(0));
-        field("50/4 * * * *", 0, bits(50, 54, 58));
-        field("10-20/3 * * * *", 0, bits(10, 13, 16, 19));
-        field("3-5,58 * * * *", 0, bits(3, 4, 5, 58));
-        field("* 22-23 * * *", 1, bits(22, 23));
-        field("* * */10 * *", 2, bits(1, 11, 21, 31));
-        field("* * 25/3 * *", 2, bits(25, 28, 31));
-        field("* * L,LW,L-3,5W * *", 2, 0L);
-        field("* * L,7,15W * *", 2, bits(7));
-        field("* * * feb-apr/2,dec *", 3, bits(2, 4, 12));
-        field("* * * 11/1 *", 3, bits(11, 12));
-        field("* * * * 7", 4, bits(0));
-        field("* * * * 5-7", 4, bits(0, 5, 6));
-        field("* * * * 0-7", 4, 127L);
-        field("* * * * 1-7/2", 4, bits(0, 1, 3, 5));
-        field("* * * * 5/1", 4, bits(5, 6));
-        field("* * * * 7/1", 4, bits(0));
-        field("* * * * 7/2", 4, bits(0));
-        field("* * * * */2", 4, bits(0, 2, 4, 6));
-        field("* * * * */4", 4, bits(0, 4));
-        field("* * * * sun,sat", 4, bits(0, 6));
-        field("* * * * tue-thu", 4, bits(2, 3, 4));
-        field("* * * * mon/2", 4, bits(1, 3, 5));
-        field("* * * * 3L,2#1", 4, 0L);
-        field("* * * * 3L,2#1,5", 4, bits(5));
+        Texts.field("* * * * *", 0, minutes);
+        Texts.field("* * * * *", 1, (1L << 24) - 1);
+        Texts.field("* * * * *", 2, (1L << 32) - 2);
+        Texts.field("* * * * *", 3, (1L << 13) - 2);
+        Texts.field("* * * * *", 4, 127L);
+        Texts.field("5,7,5 * * * *", 0, Texts.bits(5, 7));
+        Texts.field("*/25 * * * *", 0, Texts.bits(0, 25, 50));
+        Texts.field("*/1000 * * * *", 0, Texts.bits(0));
+        Texts.field("50/4 * * * *", 0, Texts.bits(50, 54, 58));
+        Texts.field("10-20/3 * * * *", 0, Texts.bits(10, 13, 16, 19));
+        Texts.field("3-5,58 * * * *", 0, Texts.bits(3, 4, 5, 58));
+        Texts.field("* 22-23 * * *", 1, Texts.bits(22, 23));
+        Texts.field("* * */10 * *", 2, Texts.bits(1, 11, 21, 31));
+        Texts.field("* * 25/3 * *", 2, Texts.bits(25, 28, 31));
+        Texts.field("* * L,LW,L-3,5W * *", 2, 0L);
+        Texts.field("* * L,7,15W * *", 2, Texts.bits(7));
+        Texts.field("* * * feb-apr/2,dec *", 3, Texts.bits(2, 4, 12));
+        Texts.field("* * * 11/1 *", 3, Texts.bits(11, 12));
+        Texts.field("* * * * 7", 4, Texts.bits(0));
+        Texts.field("* * * * 5-7", 4, Texts.bits(0, 5, 6));
+        Texts.field("* * * * 0-7", 4, 127L);
+        Texts.field("* * * * 1-7/2", 4, Texts.bits(0, 1, 3, 5));
+        Texts.field("* * * * 5/1", 4, Texts.bits(5, 6));
+        Texts.field("* * * * 7/1", 4, Texts.bits(0));
+        Texts.field("* * * * 7/2", 4, Texts.bits(0));
+        Texts.field("* * * * */2", 4, Texts.bits(0, 2, 4, 6));
+        Texts.field("* * * * */4", 4, Texts.bits(0, 4));
+        Texts.field("* * * * sun,sat", 4, Texts.bits(0, 6));
+        Texts.field("* * * * tue-thu", 4, Texts.bits(2, 3, 4));
+        Texts.field("* * * * mon/2", 4, Texts.bits(1, 3, 5));
+        Texts.field("* * * * 3L,2#1", 4, 0L);
+        Texts.field("* * * * 3L,2#1,5", 4, Texts.bits(5));
     }
 
     private static void word(String text, String same) {
