@@ -1274,7 +1274,8 @@ public final class CalendarOrders {
         }
 
         void add(int kind, int number, int minute, int matchedMinute) {
-            if (count < MOST_LINES) {
+            // Beyond the calls that are promised the number of lines may wrap around.
+            if (count >= 0 && count < MOST_LINES) {
                 kinds[count] = kind;
                 numbers[count] = number;
                 minutes[count] = minute;

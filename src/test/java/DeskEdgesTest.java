@@ -19,6 +19,7 @@ public final class DeskEdgesTest {
         clockBegins();
         runsEnd();
         runsEndByNumbers();
+        allRunsEndAtOnce();
         oneThatWaitsBeginsAtOnce();
         ordersAreDueByNumbers();
         dueOnesBegin();
@@ -153,6 +154,50 @@ public final class DeskEdgesTest {
         lines(y, "those begun first", "1 0 16 1", "1 0 16 2", "1 0 16 3", "1 1 16 4");
     }
 
+    private static CalendarOrders twelveTogether(int takes) {
+        CalendarOrders x = desk();
+        for (int n = 0; n < 12; n++) {
+            order(x, "* * * * *", ALL, 7, TOGETHER, takes);
+        }
+        return x;
+    }
+
+    private static void ended(CalendarOrders x, int line, int number, int minute, int matched) {
+        Due.is("kind of line " + line, x.log(line, 0), 1);
+        Due.is("order of line " + line, x.log(line, 1), number);
+        Due.is("minute of line " + line, x.log(line, 2), START + minute);
+        Due.is("matched of line " + line, x.log(line, 3), START + matched);
+    }
+
+    private static void allRunsEndAtOnce() {
+        Due.sentence("3 ORDERS", "(begun LONG minutes before; by numbers of ORDERS, of one those begun first");
+        CalendarOrders x = twelveTogether(5);
+        asleepFor(x, 8);
+        Due.is("eight of all twelve", x.count(5), 96);
+        x.tear();
+        x.pass(4);
+        Due.is("none has ended", x.count(5), 96);
+        x.tear();
+        x.pass(1);
+        for (int line = 0; line < 96; line++) {
+            ended(x, line, line / 8, 13, line % 8 + 1);
+        }
+        Due.is("new ones are due behind them", x.count(5), 12);
+        Due.is("lines", x.count(3), 96 + 12);
+        Due.sentence("3 ORDERS", "by the minutes of their ends, then by numbers of ORDERS, then those begun first");
+        CalendarOrders y = twelveTogether(10);
+        y.pass(8);
+        Due.is("eight of all twelve", y.count(5), 96);
+        y.tear();
+        y.sleep();
+        y.pass(10);
+        Due.is("all end, and eight of each were missed", y.wake(), 96 + 96);
+        for (int line = 0; line < 96; line++) {
+            ended(y, line, line % 12, line / 12 + 11, line / 12 + 1);
+        }
+        Due.is("eight of all twelve again", y.count(5), 96);
+    }
+
     private static void oneThatWaitsBeginsAtOnce() {
         Due.sentence("3 ORDERS", "behind each, if one of that ORDER WAITS and none of it runs any more, that begins at once");
         CalendarOrders x = desk();
@@ -195,6 +240,14 @@ public final class DeskEdgesTest {
         order(x, "43 * * * *", TOGETHER, 9);
         x.pass(1);
         lines(x, "a new one has the least number", "0 0 3 3");
+        for (int n = 0; n < 12; n++) {
+            CalendarOrders y = desk();
+            for (int o = 0; o < 12; o++) {
+                order(y, o == n ? "42 * * * *" : "0 0 30 2 *", WAIT, 3);
+            }
+            y.pass(5);
+            lines(y, "one alone of twelve", "0 " + n + " 2 2", "1 " + n + " 5 2");
+        }
     }
 
     private static void dueOnesBegin() {
@@ -529,24 +582,55 @@ public final class DeskEdgesTest {
         Due.is("the last line kept", y.log(299, 3), START + 300);
         Due.is("all lines", y.count(3), 310);
         Due.is("all dropped", y.told(0, 8), 308);
+        fullLog();
+    }
+
+    /** What is not kept any more is begun, dropped and kept waiting all the same. */
+    private static void fullLog() {
+        CalendarOrders x = desk();
+        order(x, "* * * * *", DROP, 10000);
+        x.pass(300);
+        order(x, "* * * * *", ALL, 100, TOGETHER, 5);
+        order(x, "* * * * *", ALL, 100, WAIT, 5);
+        order(x, "* * * * *", ONCE, 100, TOGETHER, 5);
+        order(x, "* * * * *", ALL, 100, DROP, 5);
+        x.sleep();
+        x.pass(12);
+        Due.is("lines that came", x.wake(), 12 + 12 + 1 + 12);
+        int[][] want = {{1, 0, 1, 299}, {8, 0, 8, 4}, {1, 1, 1, 10}, {1, 0, 1, 0}, {1, 0, 1, 11}};
+        for (int o = 0; o < 5; o++) {
+            for (int what = 5; what <= 8; what++) {
+                Due.is("told(" + o + ", " + what + ") with a full log", x.told(o, what), want[o][what - 5]);
+            }
+        }
+        x.tear();
+        x.pass(5);
+        // Five lines for each of five minutes, and in the last one twelve for ends and what waited.
+        Due.is("they end, and are told", x.count(3), 5 * 5 + (8 + 2 + 1 + 1));
     }
 
     private static void orderGoesAway() {
         Due.sentence("3 ORDERS", "An ORDER that goes away takes its runs along, which are not told any more.");
         CalendarOrders x = desk();
         order(x, "41,42 * * * *", WAIT, 5);
-        order(x, "41-48 * * * *", TOGETHER, 20);
+        order(x, "41-49 * * * *", TOGETHER, 20);
         order(x, "41 * * * *", TOGETHER, 5);
-        x.pass(8);
+        x.pass(9);
         x.tear();
         Due.is("runs", x.count(5), 9);
+        Due.is("one was dropped", x.told(1, 8), 1);
         x.cancel(1);
         Due.is("eight runs go", x.count(5), 1);
         x.cancel(0);
         Due.is("the last goes", x.count(5), 0);
         order(x, "0 0 1 1 *", WAIT, 5);
-        Due.is("nothing waits of the new one", x.told(0, 6), 0);
-        Due.is("nothing runs of the new one", x.told(0, 5), 0);
+        order(x, "0 0 1 1 *", TOGETHER, 5);
+        for (int n = 0; n < 2; n++) {
+            Due.is("nothing runs of the new one", x.told(n, 5), 0);
+            Due.is("nothing waits of the new one", x.told(n, 6), 0);
+            Due.is("nothing began of the new one", x.told(n, 7), 0);
+            Due.is("nothing was dropped of the new one", x.told(n, 8), 0);
+        }
         x.pass(100);
         lines(x, "none is told any more", "0 2 61 61", "1 2 66 61");
     }
@@ -573,6 +657,13 @@ public final class DeskEdgesTest {
         x.pass(60);
         Due.is("none of the former ones ended", x.log(0, 0), 0);
         Due.is("it began at the next minute", x.log(0, 2), START + 1);
+        CalendarOrders y = twelveTogether(50);
+        y.pass(8);
+        y.put(START + 8);
+        for (int n = 0; n < 12; n++) {
+            Due.is("no run of " + n, y.told(n, 5), 0);
+        }
+        Due.is("no run of all twelve", y.count(5), 0);
         x.put(0);
         Due.is("to the first minute", x.count(0), 0);
         x.put(LAST);

@@ -13,6 +13,7 @@ public final class OrderEdgesTest {
 
     public static void main(String[] args) {
         numbersOfOrders();
+        nothingIsLeftOfATextThatWent();
         noSuchOrder();
         cancelTellsHowManyAreLeft();
         toldAll();
@@ -37,6 +38,8 @@ public final class OrderEdgesTest {
         betweenAtMost();
         betweenRefusesMinutes();
         betweenRefusesStretches();
+        searchesFromEveryMinute();
+        searchesOverYears();
         searchesOverChanges();
         indexFirst();
         Due.end("OrderEdgesTest");
@@ -78,6 +81,52 @@ public final class OrderEdgesTest {
         Due.is("all are free again", Due.order(x, "@daily"), 0);
         Due.order(x, "x");
         Due.is("one with a fault takes no number", Due.order(x, "@daily"), 1);
+    }
+
+    /** A number is given again: what the text before meant by it must be gone, whether that had a fault or not. */
+    private static void nothingIsLeftOfATextThatWent() {
+        Due.sentence("Promise 9", "An ORDER goes");
+        String[] before = {"* * L * *", "* * L-3 * *", "* * LW * *", "* * 15W * *", "* * 9 * 5L", "* * 9 * 2#3", "* * 9 * 5",
+            "* * 9 * * 2000", "* * 9 * * 1900-2199", "1 * 9 * *", "* 1 9 * *", "* * 9 6 *", "* * */2 * *", "* * 9 * */2"};
+        for (String text : before) {
+            for (int ended = 0; ended < 2; ended++) {
+                CalendarOrders x = new CalendarOrders();
+                // Behind a text with a fault at its end the number stays free, behind a right one it is freed.
+                if (ended == 0) {
+                    Due.is("order of " + text, Due.order(x, text), 0);
+                    x.cancel(0);
+                } else {
+                    Due.is("order of " + text + "x", Due.order(x, text + "x") < 0, true);
+                }
+                Due.is("the number is given again", Due.order(x, "30 12 9 4 3"), 0);
+                int[] want = {30, 12, 9, 4, 3};
+                for (int f = 0; f < 5; f++) {
+                    Due.is("field " + f + " behind " + text, x.field(0, f), 1L << want[f]);
+                }
+                Due.is("DAY behind " + text, x.told(0, 9), 0);
+                Due.is("WEEKDAY behind " + text, x.told(0, 10), 0);
+                for (int day = 1; day <= 30; day++) {
+                    // 3 April 2024 is a Wednesday; none of the texts before means one.
+                    Due.is("day " + day + " behind " + text, x.day(0, 3, 2024, 4, day), day == 9 || day % 7 == 3);
+                }
+                Due.is("no YEAR behind " + text, x.day(0, 3, 1899, 4, 9), true);
+            }
+        }
+        CalendarOrders x = with("* * * * * 1900,1963,1964,2027,2028,2091,2092,2155,2156,2199");
+        x.cancel(0);
+        Due.order(x, "* * * * * 2000");
+        for (int year = 1899; year <= 2200; year++) {
+            Due.is("year " + year, x.day(0, 3, year, 1, 1), year == 2000);
+        }
+        Due.sentence("Promise 7", "its number; -2 less the place of its FAULT: there is none");
+        CalendarOrders y = with("* * * * *");
+        Due.order(y, "0 0 L * 5L x");
+        Due.is("another order stays as it is", y.field(0, 0), (1L << 60) - 1);
+        Due.is("a known day is asked for anew", y.matches(0, 1440), true);
+        y.cancel(0);
+        Due.order(y, "0 0 3 * *");
+        Due.is("of the new text", y.matches(0, 1440), false);
+        Due.is("the first minute that does", y.matches(0, 2880), true);
     }
 
     private static void noSuchOrder() {
@@ -463,6 +512,85 @@ public final class OrderEdgesTest {
         Due.is("just 20000 days", x.between(0, 500, 500 + FARTHEST), FARTHEST);
         Due.refuses("a minute more", ARGUMENT, () -> x.between(0, 500, 501 + FARTHEST));
         Due.refuses("all that there are", ARGUMENT, () -> x.between(0, 0, LAST));
+    }
+
+    /** Which times of a day match is told by hand here, and looked at minute by minute. */
+    private static void searchesFromEveryMinute() {
+        Due.sentence("Promise 14", "The least minute behind one that matches (from every minute of two days)");
+        String[] texts = {"0,30,59 0,5,23 * * *", "7 * * * *", "* 13 * * *", "0 0 * * *", "59 23 * * *", "*/59 */23 * * *"};
+        int[][] minutes = {{0, 30, 59}, {7}, null, {0}, {59}, {0, 59}};
+        int[][] hours = {{0, 5, 23}, null, {13}, {0}, {23}, {0, 23}};
+        for (int t = 0; t < texts.length; t++) {
+            boolean[] due = new boolean[4 * 1440 + 1];
+            for (int m = 0; m < due.length; m++) {
+                due[m] = isIn(minutes[t], m % 60) && isIn(hours[t], m / 60 % 24);
+            }
+            CalendarOrders x = with(texts[t]);
+            for (int m = 1440; m <= 3 * 1440; m++) {
+                if (m % 120 == 0) {
+                    x = with(texts[t]);
+                }
+                Due.is(texts[t] + ": matches at " + m, x.matches(0, m), due[m]);
+                Due.is(texts[t] + ": next from " + m, x.next(0, m, 1), nextDue(due, m));
+                Due.is(texts[t] + ": before " + m, x.before(0, m, 1), dueBefore(due, m));
+                Due.is(texts[t] + ": between 1440 and " + m, x.between(0, 1440, m), dueIn(due, 1440, m));
+            }
+        }
+    }
+
+    private static boolean isIn(int[] numbers, int number) {
+        if (numbers == null) {
+            return true;
+        }
+        for (int n : numbers) {
+            if (n == number) {
+                return true;
+            }
+        }
+        return false;
+    }
+
+    private static int nextDue(boolean[] due, int minute) {
+        for (int m = minute + 1; m <= minute + 1440; m++) {
+            if (due[m]) {
+                return m;
+            }
+        }
+        return -1;
+    }
+
+    private static int dueBefore(boolean[] due, int minute) {
+        for (int m = minute - 1; m >= minute - 1440; m--) {
+            if (due[m]) {
+                return m;
+            }
+        }
+        return -1;
+    }
+
+    private static int dueIn(boolean[] due, int minute, int last) {
+        int n = 0;
+        for (int m = minute + 1; m <= last; m++) {
+            n += due[m] ? 1 : 0;
+        }
+        return n;
+    }
+
+    private static void searchesOverYears() {
+        Due.sentence("Promise 14", "The least minute behind one that matches (over months and years)");
+        for (int year : new int[] {1900, 1950, 2000, 2100, 2199}) {
+            for (int month = 1; month <= 12; month++) {
+                CalendarOrders x = with("0 0 5 " + month + " * " + year);
+                int only = x.minute(0, year, month, 5, 0, 0);
+                int far = Math.max(0, only - 400 * 1440);
+                int behind = Math.min(LAST, only + 400 * 1440);
+                Due.is("next, " + year + "-" + month, x.next(0, far, 400), only);
+                Due.is("none behind, " + year + "-" + month, x.next(0, only, 20000), -1);
+                Due.is("before, " + year + "-" + month, x.before(0, behind, 400), only);
+                Due.is("none before, " + year + "-" + month, x.before(0, only, 20000), -1);
+                Due.is("between, " + year + "-" + month, x.between(0, far, behind), 1);
+            }
+        }
     }
 
     /** Whether a minute of a zone is one of those that a search finds, by civil() alone. */

@@ -697,6 +697,21 @@ public final class TextEdgesTest {
         Texts.faulty(text + weekdays + " 2000,", text.length() + weekdays.length() + 6, 1);
         Texts.faulty(text + weekdays + " 2000-", text.length() + weekdays.length() + 6, 1);
         Texts.faulty("* * * *   ", 10, 1);
+        // What a longer text left behind the end of a shorter one is not on the tape any more.
+        String[] longer = {"* * * jan *", "* * * * mon", "@hourly", "15 * * * *", "* * * * *", "* * L-15 * *", "* * * * 5#1"};
+        for (String first : longer) {
+            for (int n = 0; n < first.length(); n++) {
+                CalendarOrders x = new CalendarOrders();
+                Due.order(x, first);
+                String cut = first.substring(0, n);
+                Due.is("order of \"" + cut + "\" behind \"" + first + "\"", Due.order(x, cut), endOrNumber(cut));
+            }
+        }
+    }
+
+    /** A text that is cut within its WEEKDAY of one figure is right; all others that are cut here end too early. */
+    private static int endOrNumber(String cut) {
+        return cut.equals("* * * * 5") ? 1 : -2 - cut.length();
     }
 
     private static void outOfBounds() {
